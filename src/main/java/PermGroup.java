@@ -354,7 +354,7 @@ public final class PermGroup {
         return before;
     }
 
-    /** How many entries of the level, each followed by found, give the level's point an image below the limit. */
+    /** How many entries of the level, followed by found, give the level's point an image below the limit. */
     private int entriesBelow(int level, int found, int limit) {
         int result = 0;
         for (int x = level; x < n; x++) {

@@ -251,8 +251,10 @@ public final class PromiseTest {
         due("contains its inverse", true, () -> x.contains(perm(4, 0, 1, 2, 3)));
         due("contains(SWAP)", false, () -> x.contains(SWAP));
         due("contains one with the first image of an element", false, () -> x.contains(perm(1, 0, 3, 4, 2)));
+        PermGroup all = group(5, CYCLE, SWAP);
         for (int p : WRONG_FOR_FIVE) {
             due("contains(" + p + ")", false, () -> x.contains(p));
+            due("contains(" + p + ") with all", false, () -> all.contains(p));
         }
     }
 

@@ -12,6 +12,8 @@ public final class PromiseTest {
         perm(0, 1, 2, 3, 4) | 1 << 15,  // each other bit must be 0
         perm(0, 1, 2, 3, 4) | 1 << 21,
         perm(0, 1, 2, 3, 4) | 1 << 31,
+        perm(1, 2, 3, 4, 0) | 1 << 15,
+        perm(1, 2, 3, 4, 0) | 1 << 31,
     };
     private static final int SWAP = perm(1, 0, 2, 3, 4);
     private static final int CYCLE = perm(1, 2, 3, 4, 0);

@@ -42,6 +42,9 @@ public final class BoundaryTest {
     /** The order of the group that the first k of them generate, for k from 0 to 12. */
     private static final int[] STAIR_ORDERS = {1, 2, 2, 2, 4, 8, 8, 16, 48, 48, 144, 144, 5040};
 
+    /** A broken object can take very long over its next calls, so that many faults end the test. */
+    private static final int MOST_FAULTS = 50;
+
     private static String sentence = "";
     private static int answers = 0;
     private static int wrong = 0;
@@ -81,10 +84,12 @@ public final class BoundaryTest {
         orbitAtBothEnds();
         fixingAtBothEnds();
         evenAtBothEnds();
+        end();
+    }
+
+    private static void end() {
         System.out.println(wrong == 0 ? answers + " answers are as due" : wrong + " answers are not as due");
-        if (wrong != 0) {
-            System.exit(1);
-        }
+        System.exit(wrong == 0 ? 0 : 1);
     }
 
     private static int perm(int... images) {
@@ -157,13 +162,18 @@ public final class BoundaryTest {
         }
     }
 
-    private static void due(String call, Object want, Supplier<Object> got) {
+    private static boolean due(String call, Object want, Supplier<Object> got) {
         answers++;
         Object answer = answerOf(got);
-        if (!want.equals(answer)) {
+        boolean asDue = want.equals(answer);
+        if (!asDue) {
             wrong++;
             System.out.println("\"" + sentence + "\": " + call + " answered " + answer + ", due is " + want);
+            if (wrong == MOST_FAULTS) {
+                end();
+            }
         }
+        return asDue;
     }
 
     /** What the questions answer, with every generator and then with one less after the other. */
@@ -504,11 +514,11 @@ public final class BoundaryTest {
             List<Object> before = seen(maker.get());
             refusals(maker.get()).forEach((call, refusal) -> {
                 PermGroup x = maker.get();
-                due(call + " on " + name, refusal.want, () -> refusal.call.apply(x));
+                if (!due(call + " on " + name, refusal.want, () -> refusal.call.apply(x))) {
+                    return;
+                }
+                due(call + " once more on " + name, refusal.want, () -> refusal.call.apply(x));
                 due("the questions after " + call + " on " + name, before, () -> seen(x));
-                PermGroup twice = maker.get();
-                answerOf(() -> refusal.call.apply(twice));
-                due(call + " once more on " + name, refusal.want, () -> refusal.call.apply(twice));
             });
         });
     }
@@ -577,9 +587,10 @@ public final class BoundaryTest {
             for (PermGroup x : List.of(new PermGroup(), stairs(12))) {
                 int n = x.degree();
                 int order = x.order();
-                due("points(" + k + ")", false, () -> x.points(k));
-                due("degree() after points(" + k + ")", n, x::degree);
-                due("order() after points(" + k + ")", order, x::order);
+                if (due("points(" + k + ")", false, () -> x.points(k))) {
+                    due("degree() after points(" + k + ")", n, x::degree);
+                    due("order() after points(" + k + ")", order, x::order);
+                }
             }
         }
     }
@@ -708,7 +719,7 @@ public final class BoundaryTest {
             int kept = left;
             due("all questions after drops down to " + left, seen(stairs(left)), () -> {
                 PermGroup y = stairs(12);
-                while (y.generators() > kept) {
+                for (int k = 12; k > kept; k--) {
                     y.drop();
                 }
                 return seen(y);

@@ -34,7 +34,8 @@ public final class ModelTest {
 
     /** The document's words with lists and sets; a permutation is a list of images. */
     private static final class Model {
-        private static final Map<String, List<List<Integer>>> KNOWN = new HashMap<>();
+        // Each model's own, so that a run's groups can be forgotten when it ends.
+        private final Map<String, List<List<Integer>>> known = new HashMap<>();
 
         private int n = 5;
         private final List<List<Integer>> generators = new ArrayList<>();
@@ -80,7 +81,7 @@ public final class ModelTest {
         /** The elements in order; kept for the next question, since listing them is slow. */
         List<List<Integer>> group() {
             Set<List<Integer>> distinct = new LinkedHashSet<>(generators);
-            return KNOWN.computeIfAbsent(n + ":" + distinct, key -> listed(distinct));
+            return known.computeIfAbsent(n + ":" + distinct, key -> listed(distinct));
         }
 
         private List<List<Integer>> listed(Set<List<Integer>> distinct) {
